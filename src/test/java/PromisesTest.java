@@ -357,6 +357,13 @@ public final class PromisesTest {
         due("10 pump", x.leaves(1, 8), 14);
         due("10 pump's last", x.leaves(1, 56), 56);
         due("10 pump would be 63", x.leaves(1, 57), -1);
+        x.sets(1, 1, 2);
+        due("10 pump of 2 at the last minute", x.leaves(1, 61), 62);
+        x.sets(1, 1, 1);
+        due("10 pump of 1 at the last minute", x.leaves(1, 62), 62);
+        x.sets(1, 1, 15);
+        due("10 pump of 15", x.leaves(1, 46), 60);
+        due("10 pump of 15, later", x.leaves(1, 61), -1);
         due("10 tank", x.leaves(2, 0), 7);
         due("10 tank", x.leaves(2, 55), 62);
         due("10 tank would be 63", x.leaves(2, 56), -1);
