@@ -1,8 +1,5 @@
 /** Each promise of the document by hand: ordinary inputs, the edges that it names, wrong inputs. */
-public final class PromisesTest {
-    private static int wrong = 0;
-    private static int checks = 0;
-
+public final class PromisesTest extends Checks {
     public static void main(String[] args) {
         newObject();
         shaft();
@@ -31,58 +28,7 @@ public final class PromisesTest {
         told();
         digest();
         extremes();
-        System.out.println(checks + " checks, " + wrong + " wrong");
-        if (wrong != 0) {
-            System.exit(1);
-        }
-    }
-
-    private static void due(String what, long got, long want) {
-        checks++;
-        if (got != want) {
-            wrong++;
-            System.out.println(what + " answered " + got + ", due is " + want);
-        }
-    }
-
-    private static ShaftHunt plain(int shafts) {
-        ShaftHunt x = new ShaftHunt();
-        for (int a = 0; a < shafts; a++) {
-            x.shaft(0, 1);
-        }
-        return x;
-    }
-
-    private static ShaftHunt chain(int shafts) {
-        ShaftHunt x = plain(shafts);
-        for (int a = 0; a + 1 < shafts; a++) {
-            x.pipe(a, a + 1, 0, 0);
-        }
-        return x;
-    }
-
-    private static int reads(ShaftHunt x, String text) {
-        x.clear();
-        for (int i = 0; i < text.length(); i++) {
-            x.type(text.charAt(i));
-        }
-        return x.reads();
-    }
-
-    private static long bits(int... minutes) {
-        long set = 0;
-        for (int m : minutes) {
-            set |= 1L << m;
-        }
-        return set;
-    }
-
-    private static long span(int first, int last) {
-        long set = 0;
-        for (int m = first; m <= last; m++) {
-            set |= 1L << m;
-        }
-        return set;
+        finish();
     }
 
     private static void newObject() {
