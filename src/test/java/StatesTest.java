@@ -10,6 +10,7 @@ public final class StatesTest extends Checks {
         refusedLeavesNone();
         fiveAtMost();
         backBringsAllBack();
+        backBringsSightsBack();
         backLeavesTextAndCounts();
         noStepForward();
         oneObjectAlone();
@@ -199,6 +200,25 @@ public final class StatesTest extends Checks {
         due("a new one takes its number", z.shaft(0, 2), 1);
         due("of its own KIND", z.of(1, 0), 0);
         due("of its own P", z.of(1, 1), 2);
+    }
+
+    /** Sights that were forgotten and written over by others: each row of them comes back, asked before or not. */
+    private static void backBringsSightsBack() {
+        int[][] others = {{0, 0, 7}, {1, 1, 7}, {1, 0, 9}};
+        for (int[] other : others) {
+            ShaftHunt x = plain(2);
+            x.sight(1, 0, 7);
+            due("TIMES of the first SIGHT", x.when(0), bits(7));
+            x.forget();
+            due("TIMES without SIGHTS", x.when(0), Integer.MAX_VALUE);
+            x.sight(other[0], other[1], other[2]);
+            due("another SIGHT", x.when(0) == bits(7) ? 1 : 0, 0);
+            due("back to none", x.back(), 4);
+            due("TIMES without SIGHTS again", x.when(0), Integer.MAX_VALUE);
+            due("back to the first SIGHT", x.back(), 3);
+            due("TIMES of the first SIGHT again", x.when(0), bits(7));
+            due("its SHAFT is the SUSPECT again", x.suspects(), 1);
+        }
     }
 
     // All but THE TEXT and how often refused.
