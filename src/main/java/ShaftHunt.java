@@ -24,7 +24,7 @@ public final class ShaftHunt {
     private static final int FAULT_BASE = -10, STOP_BASE = -1000;
 
     // Minutes 0 .. 62 are all bits of a long but its sign: what is later falls off.
-    private static final long ALL_MINUTES = Long.MAX_VALUE;
+    private static final long ALL_MINUTES = -1L >>> 1;
 
     private final Drains now;
     private final Past past;
@@ -40,7 +40,7 @@ public final class ShaftHunt {
     public ShaftHunt() {
         now = new Drains();
         past = new Past();
-        flow = new Flow(now);
+        flow = new Flow();
         watch = new Watch();
         orders = new Orders();
         text = new byte[MOST_BYTES];
@@ -102,7 +102,7 @@ public final class ShaftHunt {
         if (!isStart(a, m) || !now.hasShaft(b)) {
             return refused(BAD);
         }
-        flow.walk(a, m);
+        flow.walk(now, a, m);
         return flow.come[b];
     }
 
@@ -110,7 +110,7 @@ public final class ShaftHunt {
         if (!isStart(a, m) || !now.hasShaft(b) || !within(what, 0, 2)) {
             return refused(BAD);
         }
-        flow.walk(a, m);
+        flow.walk(now, a, m);
         long minutes = flow.come[b];
         if (what == 2) {
             return Long.bitCount(minutes);
@@ -145,26 +145,26 @@ public final class ShaftHunt {
         if (!isStart(a, m)) {
             return refused(BAD);
         }
-        flow.walk(a, m);
-        return flow.agrees() ? 1 : 0;
+        flow.walk(now, a, m);
+        return flow.agrees(now) ? 1 : 0;
     }
 
     public int when(int a) {
         if (!now.hasShaft(a)) {
             return refused(BAD);
         }
-        return flow.startsAt(a);
+        return flow.startsAt(now, a);
     }
 
     public int suspects() {
-        return flow.suspicious();
+        return flow.suspicious(now);
     }
 
     public int next(int what) {
         if (!within(what, 0, 1)) {
             return refused(BAD);
         }
-        int suspected = flow.suspicious();
+        int suspected = flow.suspicious(now);
         int best = NONE;
         int bestPart = NONE;
         for (int w = 0; w < now.shafts; w++) {
@@ -602,22 +602,17 @@ public final class ShaftHunt {
 
     /** What comes by behind a start, and which starts fit what was seen. */
     private static final class Flow {
-        private final Drains drains;
         // For every shaft the minutes at which it is come to behind the start walked from last.
         final long[] come = new long[MOST_SHAFTS];
         private final int[] starts = new int[MOST_SHAFTS];
         // Bits of the shafts whose starts are known: to find them is by far the dearest work.
         private int known;
 
-        Flow(Drains drains) {
-            this.drains = drains;
-        }
-
         void outdate() {
             known = 0;
         }
 
-        void walk(int a, int m) {
+        void walk(Drains drains, int a, int m) {
             Arrays.fill(come, 0L);
             come[a] = 1L << m;
             for (int n = 0; n < drains.pipes; n++) {
@@ -630,23 +625,23 @@ public final class ShaftHunt {
         }
 
         /** Whether the start walked from last fits all sights. */
-        boolean agrees() {
+        boolean agrees(Drains drains) {
             for (int s = 0; s < drains.sights; s++) {
-                if (!agreesWith(s)) {
+                if (!agreesWith(drains, s)) {
                     return false;
                 }
             }
             return true;
         }
 
-        int startsAt(int a) {
+        int startsAt(Drains drains, int a) {
             if ((known >> a & 1) == 1) {
                 return starts[a];
             }
             int found = 0;
             for (int m = 0; m <= LAST_START; m++) {
-                walk(a, m);
-                if (agrees()) {
+                walk(drains, a, m);
+                if (agrees(drains)) {
                     found |= 1 << m;
                 }
             }
@@ -655,17 +650,17 @@ public final class ShaftHunt {
             return found;
         }
 
-        int suspicious() {
+        int suspicious(Drains drains) {
             int found = 0;
             for (int a = 0; a < drains.shafts; a++) {
-                if (startsAt(a) != 0) {
+                if (startsAt(drains, a) != 0) {
                     found |= 1 << a;
                 }
             }
             return found;
         }
 
-        private boolean agreesWith(int s) {
+        private boolean agreesWith(Drains drains, int s) {
             long minutes = come[drains.place[s]];
             int m = drains.minute[s];
             if (drains.sort[s] == SEEN) {

@@ -1,5 +1,6 @@
 import java.io.IOException;
 import java.lang.management.ManagementFactory;
+import java.lang.reflect.Constructor;
 import java.lang.reflect.Field;
 import java.lang.reflect.Method;
 import java.lang.reflect.Modifier;
@@ -23,6 +24,9 @@ public final class RulesTest {
         "throw", "throws", "try", "catch", "finally", "synchronized", "assert", "volatile", "transient", "Exact",
         "Object", "hashCode", "toString", "random", "Random", "nanoTime", "currentTimeMillis", "Thread", "var",
         "goto", "native", "package", "protected"};
+    private static final Set<String> LIBRARY = Set.of(
+        "Integer.bitCount(", "Long.bitCount(", "Long.numberOfTrailingZeros(", "Long.numberOfLeadingZeros(", "Math.max(",
+        "Math.min(", "System.arraycopy(", "Arrays.fill(");
 
     private static int wrong = 0;
 
@@ -90,6 +94,9 @@ public final class RulesTest {
                 must(method.getParameterCount() <= 7, "at most seven parameters: " + method);
             }
             must(fields(inside) <= 20, "at most some twenty fields: " + inside);
+            for (Constructor<?> constructor : inside.getDeclaredConstructors()) {
+                must(constructor.getParameterCount() == 0, "a constructor is handed no part of another: " + inside);
+            }
         }
         for (Method method : ShaftHunt.class.getDeclaredMethods()) {
             must(Modifier.isPublic(method.getModifiers()) || !names.contains(method.getName()),
@@ -114,7 +121,17 @@ public final class RulesTest {
         while (imports.find()) {
             must(imports.group(1).equals("java.util.Arrays"), "imports " + imports.group(1));
         }
+        library(code);
         lengths(text.split("\n"));
+    }
+
+    /** Of the library only functions that LANGUAGE.md names: its constants are not among them. */
+    private static void library(String code) {
+        String program = code.replaceAll("import [^;]*;", " ");
+        Matcher uses = Pattern.compile("\\b[A-Z][A-Za-z]*[a-z][A-Za-z]*\\.\\w+\\(?").matcher(program);
+        while (uses.find()) {
+            must(LIBRARY.contains(uses.group()), "of the library only what is listed: " + uses.group());
+        }
     }
 
     /** A method starts with a line that opens a brace behind parameters, and ends with a brace as far in. */
